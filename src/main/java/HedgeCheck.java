@@ -802,8 +802,10 @@ public final class HedgeCheck {
         final long[] sizes = new long[KINDS];
         final int[] fits = new int[LETTERS];
         final long[] letterSizes = new long[LETTERS];
-        final int[] letterOf = new int[LABELS * KINDS];
+        final int[] labelLetters = new int[LABELS * KINDS];
         final int[] follows = new int[LETTERS * KINDS];
+        /** All false between calls. */
+        final boolean[] marked = new boolean[LETTERS];
         /** The kinds of what belongs to a name, a bit each. */
         final long[] members = new long[NAMES];
 
@@ -844,7 +846,7 @@ public final class HedgeCheck {
 
         private void findLetters(int content) {
             for (int label = 0; label < LABELS; label++) {
-                letterOf[label * KINDS + content] = letterFor(rests.fitting(label, masks[content]));
+                labelLetters[label * KINDS + content] = letterFor(rests.fitting(label, masks[content]));
             }
         }
 
@@ -907,7 +909,7 @@ public final class HedgeCheck {
             }
             for (int label = 0; label < LABELS; label++) {
                 for (int content = 0; content < count; content++) {
-                    int letter = letterOf[label * KINDS + content];
+                    int letter = labelLetters[label * KINDS + content];
                     letterSizes[letter] = Math.min(letterSizes[letter], 1 + sizes[content]);
                 }
             }
@@ -930,19 +932,26 @@ public final class HedgeCheck {
 
         /** The kind of a hedge by its first node's label (or NUMBER), and the kinds of that node's content and of what follows it. */
         int follow(int first, int content, int tail) {
-            int letter = first == NUMBER ? 0 : letterOf[first * KINDS + content];
-            return follows[letter * KINDS + tail];
+            return follows[letterOf(first, content) * KINDS + tail];
+        }
+
+        private int letterOf(int first, int content) {
+            return first == NUMBER ? 0 : labelLetters[first * KINDS + content];
         }
 
         /** The kinds of hedges whose first node's content and whose tail may be of several kinds. */
         long followAll(int first, long contents, long tails) {
-            long found = 0;
             for (int content = 0; content < count; content++) {
-                for (int tail = 0; (contents >>> content & 1) != 0 && tail < count; tail++) {
-                    if ((tails >>> tail & 1) != 0) {
-                        found |= 1L << follow(first, content, tail);
-                    }
+                if ((contents >>> content & 1) != 0) {
+                    marked[letterOf(first, content)] = true;
                 }
+            }
+            long found = 0;
+            for (int letter = 0; letter < letters; letter++) {
+                for (int tail = 0; marked[letter] && tail < count; tail++) {
+                    found |= (tails >>> tail & 1) != 0 ? 1L << follows[letter * KINDS + tail] : 0;
+                }
+                marked[letter] = false;
             }
             return found;
         }

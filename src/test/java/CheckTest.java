@@ -8,6 +8,7 @@ final class CheckTest {
         firstNodesOnly();
         useless();
         wrongCalls();
+        everyCall();
         wrongResults();
         emptyOutputs();
         sameHedgeTwice();
@@ -116,6 +117,32 @@ final class CheckTest {
         due.is("the first of two", due.h.wrong(0), 2);
         due.enter("f:C>A/.-0/a[A]A-h(y)", 0);
         due.is("no input, nothing wrong", due.h.wrong(0), 0);
+    }
+
+    /** Each function applied to x and to y, by functions that take A alone. */
+    private static void everyCall() {
+        due.fresh("every call");
+        due.enter("A=#", 0);
+        due.enter("B=d[C]C", 0);
+        due.enter("C=#*", 0);
+        due.enter("D=d[A]C", 0);
+        due.enter("E=d[C]A", 0);
+        String others = "fgh";
+        for (int letter = 0; letter < 3; letter++) {
+            char called = others.charAt(letter);
+            char caller = others.charAt((letter + 1) % 3);
+            int number = (letter + 1) % 3;
+            due.enter(called + ":A>F/.-", 0);
+            for (String of : new String[] {"x", "y"}) {
+                String clause = ">F/d[C]C-c[" + called + "(" + of + ")]";
+                due.enter(caller + ":B" + clause, 0);
+                due.is("wrong for B with " + clause, due.h.wrong(number), 1);
+                due.enter(caller + ":D" + clause, 0);
+                due.is("wrong for D with " + clause, due.h.wrong(number), of.equals("x") ? 0 : 1);
+                due.enter(caller + ":E" + clause, 0);
+                due.is("wrong for E with " + clause, due.h.wrong(number), of.equals("y") ? 0 : 1);
+            }
+        }
     }
 
     private static void wrongResults() {

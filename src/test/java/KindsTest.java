@@ -5,6 +5,8 @@ final class KindsTest {
     public static void main(String[] args) {
         kinds();
         fortyKinds();
+        mostRests();
+        again();
         least();
         largeSizes();
         differ();
@@ -70,6 +72,60 @@ final class KindsTest {
         due.is("uncovered(0)", due.h.uncovered(0), 4);
         due.enter("C=################", HedgeCheck.FULL);
         due.is("kinds()", due.h.kinds(), 38);
+    }
+
+    /** 48 alternatives and 16 items, the last of them in the last alternative. */
+    private static void mostRests() {
+        due.fresh("64 rests");
+        due.enter("A=#|#|#|#|#|#|#|#", 0);
+        due.enter("B=a[A]|a[A]|a[A]|B|B|B|B|B", 0);
+        due.enter("C=c[C]|c[C]|c[C]|C|C|C|C|", 0);
+        due.enter("D=D|D|D|D|D|D|D|D", 0);
+        due.enter("E=E|E|E|E|E|E|E|", 0);
+        due.enter("F=A|A|A|A|A|A|A|#?d[E]", 0);
+        due.is("kinds()", due.h.kinds(), 7);
+        due.is("least(0)", due.h.least(0), 1);
+        due.is("least(1)", due.h.least(1), 2);
+        due.is("least(2)", due.h.least(2), 0);
+        due.is("least(3)", due.h.least(3), HedgeCheck.NONE);
+        due.is("least(4)", due.h.least(4), 0);
+        due.is("least(5)", due.h.least(5), 1);
+        shows(5, 0, 1, "d[]");
+        due.read("7d[]", 0);
+        due.is("valid(5)", due.h.valid(5), true);
+        due.read("77d[]", 0);
+        due.is("valid(5)", due.h.valid(5), false);
+        due.read("7", 0);
+        due.is("valid(5)", due.h.valid(5), true);
+        due.read("", 0);
+        due.is("valid(5)", due.h.valid(5), false);
+        due.enter("F=A|A|A|A|A|A|A|#d[E]*", 0);
+        due.is("valid(5)", due.h.valid(5), false);
+        shows(5, 0, 2, "0d[]");
+        due.enter("F=A|A|A|A|A|A|A|#?d[E]?", 0);
+        shows(5, 0, 0, "");
+    }
+
+    /** Nothing is left of what a name was before. */
+    private static void again() {
+        due.fresh("in place of the old one");
+        due.enter("A=#*#?", 0);
+        due.is("least(0)", due.h.least(0), 0);
+        due.enter("A=##", 0);
+        due.is("least(0)", due.h.least(0), 2);
+        due.is("kinds()", due.h.kinds(), 4);
+        due.enter("A=##*", 0);
+        due.is("least(0)", due.h.least(0), 1);
+        due.enter("A=#B", 0);
+        due.enter("B=", 0);
+        due.is("least(0)", due.h.least(0), 1);
+        due.enter("A=##", 0);
+        due.is("least(0)", due.h.least(0), 2);
+        due.is("differ(0, 1)", due.h.differ(0, 1), 2);
+        due.enter("A=a[B]", 0);
+        shows(0, 5, 1, "a[]");
+        due.enter("A=b[B]", 0);
+        shows(0, 5, 1, "b[]");
     }
 
     private static void least() {

@@ -26,6 +26,16 @@ final class Oracle {
         tooLarge = false;
     }
 
+    /** How many items there are together when this definition is in place of the old one. */
+    int countItems(String text) {
+        int items = 0;
+        for (int name = 0; name < 6; name++) {
+            String each = name == text.charAt(0) - 'A' ? text : definitions[name];
+            items += each == null ? 0 : each.replaceAll("[^#a-d]", "").length();
+        }
+        return items;
+    }
+
     void defineFunction(String text) {
         functions[text.charAt(0) - 'f'] = text;
     }

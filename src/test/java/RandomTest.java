@@ -10,7 +10,7 @@ final class RandomTest {
     private static Random random;
     /** Few labels and many items make many kinds. */
     private static boolean rich;
-    private static int labels;
+    private static String labels;
     private static int names;
 
     public static void main(String[] args) {
@@ -21,12 +21,15 @@ final class RandomTest {
             due.fresh("sample " + sample);
             oracle = new Oracle();
             rich = sample % 2 == 0;
-            labels = 1 + random.nextInt(rich ? 2 : 4);
+            labels = "dcba".substring(random.nextInt(3)) + "dcba".substring(0, random.nextInt(3));
+            labels = labels.substring(0, 1 + random.nextInt(rich ? 2 : labels.length()));
             names = 1 + random.nextInt(6);
-            defineTypes();
-            askKinds();
-            tryAllSmall();
-            for (int turn = 0; turn < 3; turn++) {
+            for (int turn = 0; turn < 4; turn++) {
+                if (turn % 2 == 0) {
+                    defineTypes();
+                    askKinds();
+                    tryAllSmall();
+                }
                 defineFunctions();
                 askChecks();
                 runAll();
@@ -44,9 +47,10 @@ final class RandomTest {
     }
 
     private static char label() {
-        return (char) ('a' + random.nextInt(labels));
+        return labels.charAt(random.nextInt(labels.length()));
     }
 
+    /** The second time each in place of the old one, if there is room. */
     private static void defineTypes() {
         int left = 16;
         int share = rich ? 3 + 16 / names : 1 + random.nextInt(5);
@@ -71,10 +75,11 @@ final class RandomTest {
     }
 
     private static void define(String text) {
-        due.pad(text);
-        int answer = due.h.enter();
-        due.is("enter of " + text, answer, 0);
-        oracle.define(text);
+        boolean room = oracle.countItems(text) <= 16;
+        due.enter(text, room ? 0 : HedgeCheck.FULL);
+        if (room) {
+            oracle.define(text);
+        }
     }
 
     private static void askKinds() {
@@ -123,8 +128,8 @@ final class RandomTest {
             for (String tail : smallHedges(nodes - 1)) {
                 hedges.add("0" + tail);
                 for (String content : smallHedges(nodes - 1 - Oracle.sizeOf(tail))) {
-                    for (int k = 0; k < labels; k++) {
-                        hedges.add((char) ('a' + k) + "[" + content + "]" + tail);
+                    for (char label : labels.toCharArray()) {
+                        hedges.add(label + "[" + content + "]" + tail);
                     }
                 }
             }
