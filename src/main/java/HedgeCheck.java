@@ -56,12 +56,12 @@ public final class HedgeCheck {
         spareDocument = new Hedge(DOCUMENT);
         worth = new Hedge(VALUE);
         spareWorth = new Hedge(VALUE);
-        reader = new Reader(pad);
+        reader = new Reader();
         rests = new Rests();
         table = new Kinds(rests);
         texts = new Texts(table);
         checker = new Checker(rests, table, functions);
-        runner = new Runner(rests, functions, document, spareWorth);
+        runner = new Runner(rests, functions);
     }
 
     public boolean type(char c) {
@@ -259,7 +259,10 @@ public final class HedgeCheck {
         return code >= '0' && code <= '9';
     }
 
-    /** The nodes of a hedge in the order of its text, each with its depth; a hedge inside it is told by its first node, the empty one by NONE. */
+    /**
+     * The nodes of a hedge in the order of its text, each with its depth; a hedge inside it is told by its first
+     * node, the empty one by NONE.
+     */
     private static final class Hedge {
         final char[] codes;
         final int[] depths;
@@ -363,7 +366,10 @@ public final class HedgeCheck {
         }
     }
 
-    /** A function. Its results are lists of tokens: a part's or end's own character, ']' behind an element's result, or CALL + 2 * function, and 1 more when it is applied to y. */
+    /**
+     * A function. Its results are lists of tokens: a part's or end's own character, ']' behind an element's result,
+     * or CALL + 2 * function, and 1 more when it is applied to y.
+     */
     private static final class Function {
         static final int CALL = 256;
 
@@ -418,22 +424,14 @@ public final class HedgeCheck {
 
     /** Reads a row of characters; where it fails, its place is the stop. */
     private static final class Reader {
-        char[] row;
+        char[] row = new char[0];
         int length;
         int at;
         int parts;
 
-        Reader(char[] firstRow) {
-            row = firstRow;
-            length = 0;
-            at = 0;
-            parts = 0;
-        }
-
         void open(char[] newRow, int newLength) {
             row = newRow;
             length = newLength;
-            at = 0;
         }
 
         boolean readHedge(Hedge hedge) {
@@ -648,7 +646,10 @@ public final class HedgeCheck {
         }
     }
 
-    /** All rests of all alternatives, a bit each (16 items and 48 alternatives make 64 at most); what a hedge belongs to is a mask of them. */
+    /**
+     * All rests of all alternatives, a bit each (16 items and 48 alternatives make 64 at most); what a hedge belongs
+     * to is a mask of them.
+     */
     private static final class Rests {
         int items;
         final int[] firsts = new int[ITEMS];
@@ -775,7 +776,10 @@ public final class HedgeCheck {
             return node < 0 || node >= VALUE ? ofEmpty : ofNodes[node];
         }
 
-        /** The clause, counted from 0, that a function chooses for a hedge by its first node and what content and tail belong to. */
+        /**
+         * The clause, counted from 0, that a function chooses for a hedge by its first node and what content and tail
+         * belong to.
+         */
         int choose(Function function, int first, long content, long tail) {
             for (int clause = 0; clause < function.clauses; clause++) {
                 if (function.firsts[clause] == first
@@ -788,7 +792,10 @@ public final class HedgeCheck {
         }
     }
 
-    /** The kinds of all hedges, the empty hedge's first. Nodes that fit the same items are one letter; letter 0 is the numbers'. */
+    /**
+     * The kinds of all hedges, the empty hedge's first. Nodes that fit the same items are one letter; letter 0 is
+     * the numbers'.
+     */
     private static final class Kinds {
         static final int LETTERS = 1 + LABELS * KINDS;
         static final long FAR = 1L << 60;
@@ -930,7 +937,10 @@ public final class HedgeCheck {
             return better;
         }
 
-        /** The kind of a hedge by its first node's label (or NUMBER), and the kinds of that node's content and of what follows it. */
+        /**
+         * The kind of a hedge by its first node's label (or NUMBER), and the kinds of that node's content and of what
+         * follows it.
+         */
         int follow(int first, int content, int tail) {
             return follows[letterOf(first, content) * KINDS + tail];
         }
@@ -972,7 +982,10 @@ public final class HedgeCheck {
         }
     }
 
-    /** For each kind that has a hedge small enough the first text of its smallest hedges. Texts of hedges of one size never begin one another, so first parts make a first whole. */
+    /**
+     * For each kind that has a hedge small enough the first text of its smallest hedges. Texts of hedges of one size
+     * never begin one another, so first parts make a first whole.
+     */
     private static final class Texts {
         static final int LONGEST = 3 * DOCUMENT;
 
@@ -1077,7 +1090,10 @@ public final class HedgeCheck {
         }
     }
 
-    /** The check of functions. It goes through the cuts: all ways in which a hedge begins, with the kinds of the first node's content and of the tail. */
+    /**
+     * The check of functions. It goes through the cuts: all ways in which a hedge begins, with the kinds of the
+     * first node's content and of the tail.
+     */
     private static final class Checker {
         final Rests rests;
         final Kinds table;
@@ -1242,18 +1258,14 @@ public final class HedgeCheck {
 
         final Rests rests;
         final Function[] functions;
-        Hedge source;
-        Hedge written;
+        Hedge source = new Hedge(0);
+        Hedge written = new Hedge(0);
         int applied;
         int failure;
 
-        Runner(Rests theRests, Function[] theFunctions, Hedge firstSource, Hedge firstTarget) {
+        Runner(Rests theRests, Function[] theFunctions) {
             rests = theRests;
             functions = theFunctions;
-            source = firstSource;
-            written = firstTarget;
-            applied = 0;
-            failure = STUCK;
         }
 
         int runOn(Hedge document, int function, Hedge target) {
