@@ -94,6 +94,13 @@ final class CheckTest {
         due.enter("D=#", 0);
         due.enter("f:A>A/a[B]A-/a[C]A-/a[D]A-/a[A]A-", 0);
         due.is("the three before take all", due.h.useless(0), 1);
+        due.fresh("useless for all but few hedges");
+        due.enter("A=d[A]A|d[E]|d[D]|d[C]", 0);
+        due.enter("B=#?|d[D]#?#|d[D]B|E", 0);
+        due.enter("C=d[C]|#A|d[D]d[E]", 0);
+        due.enter("E=", 0);
+        due.enter("h:A>C/d[C]C-h(x)", 0);
+        due.is("useless(2)", due.h.useless(2), 0);
     }
 
     private static void wrongCalls() {

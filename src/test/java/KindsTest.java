@@ -95,6 +95,8 @@ final class KindsTest {
         due.is("valid(5)", due.h.valid(5), true);
         due.read("77d[]", 0);
         due.is("valid(5)", due.h.valid(5), false);
+        due.read("d[]d[]", 0);
+        due.is("valid(5)", due.h.valid(5), false);
         due.read("7", 0);
         due.is("valid(5)", due.h.valid(5), true);
         due.read("", 0);
