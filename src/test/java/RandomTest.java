@@ -68,7 +68,7 @@ final class RandomTest {
                 text.append(chance(25) ? name() + (k < items - 1 || chance(30) ? "|" : "") : "");
             }
             text.append(chance(25) ? "|" : "").append(chance(10) ? "|" + name() : "");
-            if (text.chars().filter(c -> c == '|').count() < 8) {
+            if (text.length() <= 80 && text.chars().filter(c -> c == '|').count() < 8) {
                 define(text.toString());
             }
         }
