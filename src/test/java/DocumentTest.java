@@ -71,32 +71,27 @@ final class DocumentTest {
         due.is("value", due.value(), "");
     }
 
-    private static void valid(String hedge, int name, boolean want) {
-        due.read(hedge, 0);
-        due.is("valid(" + name + ") of " + hedge, due.h.valid(name), want);
-    }
-
     private static void names() {
         due.fresh("names");
         due.enter("A=", 0);
-        valid("", 0, true);
-        valid("0", 0, false);
-        valid("", 1, false);
-        valid("", -1, false);
-        valid("", 6, false);
-        valid("", Integer.MIN_VALUE, false);
-        valid("", Integer.MAX_VALUE, false);
+        due.valid("", 0, true);
+        due.valid("0", 0, false);
+        due.valid("", 1, false);
+        due.valid("", -1, false);
+        due.valid("", 6, false);
+        due.valid("", Integer.MIN_VALUE, false);
+        due.valid("", Integer.MAX_VALUE, false);
         due.enter("B=a[A]|b[B]|#", 0);
-        valid("a[]", 1, true);
-        valid("b[a[]]", 1, true);
-        valid("b[b[b[7]]]", 1, true);
-        valid("b[]", 1, false);
-        valid("a[a[]]", 1, false);
-        valid("a[]a[]", 1, false);
-        valid("c[]", 1, false);
-        valid("", 1, false);
+        due.valid("a[]", 1, true);
+        due.valid("b[a[]]", 1, true);
+        due.valid("b[b[b[7]]]", 1, true);
+        due.valid("b[]", 1, false);
+        due.valid("a[a[]]", 1, false);
+        due.valid("a[]a[]", 1, false);
+        due.valid("c[]", 1, false);
+        due.valid("", 1, false);
         due.enter("C=a[D]", 0);
-        valid("a[]", 2, false);
+        due.valid("a[]", 2, false);
         due.enter("D=", 0);
         due.is("a definition that comes later counts", due.h.valid(2), true);
     }
@@ -107,48 +102,48 @@ final class DocumentTest {
         due.enter("B=#?", 0);
         due.enter("C=a[A]*b[B]?#", 0);
         due.enter("D=#*#*##", 0);
-        valid("", 0, true);
-        valid("1234", 0, true);
-        valid("12a[]", 0, false);
-        valid("", 1, true);
-        valid("1", 1, true);
-        valid("12", 1, false);
-        valid("1", 2, true);
-        valid("a[12]a[]b[3]4", 2, true);
-        valid("b[]4", 2, true);
-        valid("b[]b[]4", 2, false);
-        valid("b[12]4", 2, false);
-        valid("b[]a[]4", 2, false);
-        valid("a[]", 2, false);
-        valid("1", 3, false);
-        valid("12", 3, true);
-        valid("12345", 3, true);
+        due.valid("", 0, true);
+        due.valid("1234", 0, true);
+        due.valid("12a[]", 0, false);
+        due.valid("", 1, true);
+        due.valid("1", 1, true);
+        due.valid("12", 1, false);
+        due.valid("1", 2, true);
+        due.valid("a[12]a[]b[3]4", 2, true);
+        due.valid("b[]4", 2, true);
+        due.valid("b[]b[]4", 2, false);
+        due.valid("b[12]4", 2, false);
+        due.valid("b[]a[]4", 2, false);
+        due.valid("a[]", 2, false);
+        due.valid("1", 3, false);
+        due.valid("12", 3, true);
+        due.valid("12345", 3, true);
     }
 
     private static void tails() {
         due.fresh("tails");
         due.enter("A=A", 0);
-        valid("", 0, false);
+        due.valid("", 0, false);
         due.enter("A=B|", 0);
         due.enter("B=A", 0);
-        valid("", 0, true);
-        valid("", 1, true);
-        valid("0", 1, false);
+        due.valid("", 0, true);
+        due.valid("", 1, true);
+        due.valid("0", 1, false);
         due.enter("C=#?C", 0);
-        valid("", 2, false);
-        valid("0", 2, false);
+        due.valid("", 2, false);
+        due.valid("0", 2, false);
         due.enter("C=#?C|a[C]D", 0);
         due.enter("D=C|b[D]?", 0);
-        valid("a[]", 2, false);
-        valid("0", 2, false);
-        valid("", 3, true);
-        valid("b[]b[]", 3, false);
+        due.valid("a[]", 2, false);
+        due.valid("0", 2, false);
+        due.valid("", 3, true);
+        due.valid("b[]b[]", 3, false);
         due.enter("C=#?C|a[D]D", 0);
-        valid("a[]", 2, true);
-        valid("00a[b[]]0a[]b[]", 2, true);
-        valid("00a[b[]]0a[]b[]b[]", 2, false);
+        due.valid("a[]", 2, true);
+        due.valid("00a[b[]]0a[]b[]", 2, true);
+        due.valid("00a[b[]]0a[]b[]b[]", 2, false);
         due.enter("E=#E", 0);
-        valid("000", 4, false);
+        due.valid("000", 4, false);
     }
 
     /** What belongs is told even when there are too many kinds to count. */
@@ -157,9 +152,9 @@ final class DocumentTest {
         due.enter("A=###A|", 0);
         due.enter("B=#############B|", 0);
         due.is("kinds()", due.h.kinds(), HedgeCheck.ROOM);
-        valid("012345", 0, true);
-        valid("01234", 0, false);
-        valid("012345", 1, false);
-        valid("", 1, true);
+        due.valid("012345", 0, true);
+        due.valid("01234", 0, false);
+        due.valid("012345", 1, false);
+        due.valid("", 1, true);
     }
 }

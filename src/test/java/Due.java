@@ -1,23 +1,77 @@
+import java.io.IOException;
+import java.nio.file.Files;
+import java.nio.file.Path;
+
 /** Drives one HedgeCheck and counts the answers that are not the ones due. */
 final class Due {
+    /** What an object answers after so many calls is free, so the test of a sentence does not ask further. */
+    private static final int CALLS = 512;
+    private static final Path DOCUMENT = Path.of("../shared/DOC.md");
+    private static final String WORDS = documentWords();
+
     private static int wrong = 0;
     private static int asked = 0;
 
     HedgeCheck h = new HedgeCheck();
     String about = "";
+    private boolean counted = false;
+    private int calls = 0;
 
     /** Starts again with a new object. */
     Due fresh(String newAbout) {
         h = new HedgeCheck();
         about = newAbout;
+        counted = false;
+        calls = 0;
         return this;
+    }
+
+    /** Starts the test of a sentence, which must stand in the document in these words. */
+    Due sentence(String words) {
+        fresh(words);
+        if (WORDS != null && !WORDS.contains(words)) {
+            fail("does not stand in " + DOCUMENT);
+        }
+        counted = true;
+        return this;
+    }
+
+    /** Goes on with the same sentence and a new object. */
+    Due again() {
+        boolean count = counted;
+        fresh(about);
+        counted = count;
+        return this;
+    }
+
+    /** Null, with a notice, where the document can't be read: the answers are due all the same. */
+    private static String documentWords() {
+        try {
+            return Files.readString(DOCUMENT).replaceAll("\\s+", " ");
+        } catch (IOException e) {
+            System.out.println("the quoted sentences are not looked up: no " + DOCUMENT);
+            return null;
+        }
+    }
+
+    private void fail(String what) {
+        wrong++;
+        System.out.println(about + ": " + what);
+    }
+
+    private void count(int more) {
+        boolean within = calls <= CALLS;
+        calls += more;
+        if (counted && within && calls > CALLS) {
+            fail("the test makes more than " + CALLS + " calls of one object");
+        }
     }
 
     void is(String call, long got, long want) {
         asked++;
+        count(1);
         if (got != want) {
-            wrong++;
-            System.out.println(about + ": " + call + " answered " + got + ", due is " + want);
+            fail(call + " answered " + got + ", due is " + want);
         }
     }
 
@@ -28,17 +82,17 @@ final class Due {
     void is(String call, String got, String want) {
         asked++;
         if (!got.equals(want)) {
-            wrong++;
-            System.out.println(about + ": " + call + " answered '" + got + "', due is '" + want + "'");
+            fail(call + " answered '" + got + "', due is '" + want + "'");
         }
     }
 
     /** The pad becomes this text. */
     void pad(String text) {
+        count(1 + text.length());
         h.clear();
         for (int k = 0; k < text.length(); k++) {
             if (!h.type(text.charAt(k))) {
-                is("type of " + text, false, true);
+                fail("type refused a character of " + text);
             }
         }
     }
@@ -53,19 +107,47 @@ final class Due {
         is("read of " + text, h.read(), want);
     }
 
+    /** The same with a new object. */
+    void enterAlone(String text, int want) {
+        again().enter(text, want);
+    }
+
+    void readAlone(String text, int want) {
+        again().read(text, want);
+    }
+
+    /** Whether a hedge belongs to a name. */
+    void valid(String hedge, int name, boolean want) {
+        read(hedge, 0);
+        is("valid(" + name + ") of " + hedge, h.valid(name), want);
+    }
+
+    /** What running answers, and the value behind it. */
+    void run(int function, String document, int want, String value) {
+        read(document, 0);
+        is("run(" + function + ") on " + document, h.run(function), want);
+        is("value", value(), value);
+    }
+
     String document() {
         StringBuilder text = new StringBuilder();
-        for (int k = 0; k < 1000 && h.text(k) != HedgeCheck.NONE; k++) {
-            text.append((char) h.text(k));
+        int code = h.text(0);
+        for (int k = 1; k < 1000 && code != HedgeCheck.NONE; k++) {
+            text.append((char) code);
+            code = h.text(k);
         }
+        count(text.length() + 1);
         return text.toString();
     }
 
     String value() {
         StringBuilder text = new StringBuilder();
-        for (int k = 0; k < 1000 && h.value(k) != HedgeCheck.NONE; k++) {
-            text.append((char) h.value(k));
+        int code = h.value(0);
+        for (int k = 1; k < 1000 && code != HedgeCheck.NONE; k++) {
+            text.append((char) code);
+            code = h.value(k);
         }
+        count(text.length() + 1);
         return text.toString();
     }
 

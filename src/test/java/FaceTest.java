@@ -21,8 +21,8 @@ final class FaceTest {
     private static final Due due = new Due();
 
     public static void main(String[] args) throws Exception {
-        due.about = "face";
         constants();
+        due.fresh("face");
         members();
         classesInside();
         words(Files.readString(Path.of(args.length > 0 ? args[0] : "src/main/java/HedgeCheck.java")));
@@ -30,10 +30,15 @@ final class FaceTest {
     }
 
     private static void constants() {
+        due.sentence("`NONE = -1`: There is none.");
         due.is("NONE", HedgeCheck.NONE, -1);
+        due.sentence("`MISSING = -2`: No such name, or no such function, or it is not defined.");
         due.is("MISSING", HedgeCheck.MISSING, -2);
+        due.sentence("`ROOM = -3`: There are more than 40 kinds.");
         due.is("ROOM", HedgeCheck.ROOM, -3);
+        due.sentence("`STUCK = -4`: Running was stuck.");
         due.is("STUCK", HedgeCheck.STUCK, -4);
+        due.sentence("`FULL = -5`: There would be too much.");
         due.is("FULL", HedgeCheck.FULL, -5);
     }
 
