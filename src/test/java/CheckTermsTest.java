@@ -35,6 +35,9 @@ final class CheckTermsTest {
         kinds("D=#", 4);
         kinds("D=##", 5);
         kinds("F=b[B]", 6);
+        due.again();
+        kinds("A=#A|a[A]A|b[A]A|c[A]A|", 6);
+        kinds("A=#A|a[A]A|b[A]A|c[A]A|d[A]A|", 6);
     }
 
     /** 40 kinds with C=##, one more with C=###. */
@@ -160,6 +163,26 @@ final class CheckTermsTest {
         due.enter("g:D>A/.-", 0);
         wrong("f:A>A/a[B]B-g(x)", 1);
         wrong("f:A>A/.-/b[B]B-g(x)", 0);
+        everyCall();
+    }
+
+    /** Of all three functions, on x and on y: one that is not defined, one that takes it, one that does not. */
+    private static void everyCall() {
+        for (char called = 'f'; called <= 'h'; called++) {
+            char caller = called == 'h' ? 'f' : (char) (called + 1);
+            due.again().enter("A=a[A]A|", 0);
+            due.enter("B=", 0);
+            due.enter(caller + ":A>A/a[A]B-" + called + "(x)/a[B]A-" + called + "(y)", 0);
+            due.is("wrong", due.h.wrong(caller - 'f'), 1);
+            due.enter(called + ":A>A/.-", 0);
+            due.is("wrong", due.h.wrong(caller - 'f'), 0);
+            due.enter(called + ":B>A/.-", 0);
+            due.is("wrong", due.h.wrong(caller - 'f'), 1);
+            due.enter(caller + ":A>A/a[A]B-" + called + "(y)/a[B]A-" + called + "(x)", 0);
+            due.is("wrong", due.h.wrong(caller - 'f'), 0);
+            due.enter(caller + ":A>A/a[A]B-" + called + "(y)/a[B]A-" + called + "(y)", 0);
+            due.is("wrong", due.h.wrong(caller - 'f'), 2);
+        }
     }
 
     private static void wrongResult() {
@@ -195,6 +218,22 @@ final class CheckTermsTest {
         wrong("f:B>F/a[A]C-0g(x)", 0);
         wrong("f:B>F/a[A]C-0", 1);
         wrong("f:C>F/a[A]C-0", 0);
+        due.again().enter("A=#?", 0);
+        due.enter("B=a[A]A", 0);
+        due.enter("C=", 0);
+        due.enter("D=a[C]a[C]|a[D]|", 0);
+        wrong("f:B>A/a[A]A-x", 0);
+        wrong("f:B>A/a[A]A-y", 0);
+        wrong("f:B>C/a[A]A-x", 1);
+        wrong("f:B>C/a[A]A-y", 1);
+        wrong("f:B>C/a[C]A-x", 0);
+        wrong("f:B>C/a[A]C-y", 0);
+        wrong("f:C>D/.-a[]a[]", 0);
+        wrong("f:C>D/.-a[]a[a[]]", 1);
+        wrong("f:C>D/.-a[a[]]a[]", 1);
+        wrong("f:C>D/.-a[a[a[a[a[a[a[a[a[a[a[a[]]]]]]]]]]]]", 0);
+        wrong("f:C>C/.-a[a[a[a[a[a[a[a[a[a[a[a[]]]]]]]]]]]]", 1);
+        wrong("f:C>D/.-a[a[a[a[a[a[a[a[a[a[a[0]]]]]]]]]]]", 1);
     }
 
     private static void leadsTo() {
@@ -218,6 +257,30 @@ final class CheckTermsTest {
         due.is("in a clause that is useless", due.h.safe(0), false);
         due.enter("f:A>A/.-/a[A]A-", 0);
         due.is("f leads to g no more", due.h.safe(0), true);
+        due.again().enter("A=a[A]A|", 0);
+        due.enter("h:A>A/.-/a[A]A-g(x)", 0);
+        due.enter("g:A>A/.-/a[A]A-f(x)", 0);
+        due.enter("f:A>A/.-/a[A]A-", 0);
+        due.is("h leads to f by g", due.h.safe(2), true);
+        due.enter("f:A>A/.-", 0);
+        due.is("h leads to f by g", due.h.safe(2), false);
+        due.enter("g:A>A/.-/a[A]A-", 0);
+        due.is("h leads to f no more", due.h.safe(2), true);
+        for (char called = 'f'; called <= 'h'; called++) {
+            leadsBy(called, "x");
+            leadsBy(called, "y");
+        }
+    }
+
+    private static void leadsBy(char called, String end) {
+        char caller = called == 'h' ? 'f' : (char) (called + 1);
+        due.again().enter("A=a[A]A|", 0);
+        due.enter(caller + ":A>A/.-/a[A]A-a[" + called + "(" + end + ")]", 0);
+        due.enter(called + ":A>A/.-/a[A]A-", 0);
+        due.is("safe", due.h.safe(caller - 'f'), true);
+        due.enter(called + ":A>A/.-", 0);
+        due.is("wrong", due.h.wrong(caller - 'f'), 0);
+        due.is("safe", due.h.safe(caller - 'f'), false);
     }
 
     private static void safe() {

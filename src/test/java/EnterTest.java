@@ -119,27 +119,27 @@ final class EnterTest {
 
     private static void limits() {
         due.fresh("limits");
-        due.enter("A=################", 0);
-        due.enter("A=#################", 19);
-        due.enter("A=################|", 0);
-        due.enter("A=########|########|a[A]", 21);
-        due.enter("A=################A", 0);
-        due.enter("A=a[A]a[A]a[A]a[A]a[A]a[A]a[A]a[A]a[A]a[A]a[A]a[A]a[A]a[A]a[A]a[A]", 0);
-        due.enter("A=a[A]a[A]a[A]a[A]a[A]a[A]a[A]a[A]a[A]a[A]a[A]a[A]a[A]a[A]a[A]a[A]a", 67);
-        due.enter("A=|||||||", 0);
-        due.enter("A=||||||||", 10);
-        due.enter("A=A|B|C|D|E|F|#|", 0);
-        due.enter("A=A|B|C|D|E|F|#||", 17);
-        due.enter("f:A>A/.-/.-/.-/.-/.-/.-", 0);
-        due.enter("f:A>A/.-/.-/.-/.-/.-/.-/.-", 24);
-        due.enter("f:A>A/.-/.-/.-/.-/.-/.-/", 24);
-        due.enter("f:A>A/.-012345678901", 0);
-        due.enter("f:A>A/.-0123456789012", 21);
-        due.enter("f:A>A/#A-############y", 0);
-        due.enter("f:A>A/#A-############a[y]", 22);
-        due.enter("f:A>A/.-a[a[a[a[a[a[a[a[a[a[a[a[]]]]]]]]]]]]", 0);
-        due.enter("f:A>A/.-a[a[a[a[a[a[a[a[a[a[a[a[1]]]]]]]]]]]]", 33);
-        due.enter("f:A>A/.-012345678901/.-012345678901/#A-###########a[y]", 0);
+        due.enterAlone("A=################", 0);
+        due.enterAlone("A=#################", 19);
+        due.enterAlone("A=################|", 0);
+        due.enterAlone("A=########|########|a[A]", 21);
+        due.enterAlone("A=################A", 0);
+        due.enterAlone("A=a[A]a[A]a[A]a[A]a[A]a[A]a[A]a[A]a[A]a[A]a[A]a[A]a[A]a[A]a[A]a[A]", 0);
+        due.enterAlone("A=a[A]a[A]a[A]a[A]a[A]a[A]a[A]a[A]a[A]a[A]a[A]a[A]a[A]a[A]a[A]a[A]a", 67);
+        due.enterAlone("A=|||||||", 0);
+        due.enterAlone("A=||||||||", 10);
+        due.enterAlone("A=A|B|C|D|E|F|#|", 0);
+        due.enterAlone("A=A|B|C|D|E|F|#||", 17);
+        due.enterAlone("f:A>A/.-/.-/.-/.-/.-/.-", 0);
+        due.enterAlone("f:A>A/.-/.-/.-/.-/.-/.-/.-", 24);
+        due.enterAlone("f:A>A/.-/.-/.-/.-/.-/.-/", 24);
+        due.enterAlone("f:A>A/.-012345678901", 0);
+        due.enterAlone("f:A>A/.-0123456789012", 21);
+        due.enterAlone("f:A>A/#A-############y", 0);
+        due.enterAlone("f:A>A/#A-############a[y]", 22);
+        due.enterAlone("f:A>A/.-a[a[a[a[a[a[a[a[a[a[a[a[]]]]]]]]]]]]", 0);
+        due.enterAlone("f:A>A/.-a[a[a[a[a[a[a[a[a[a[a[a[1]]]]]]]]]]]]", 33);
+        due.enterAlone("f:A>A/.-012345678901/.-012345678901/#A-###########a[y]", 0);
     }
 
     private static void together() {

@@ -188,6 +188,9 @@ final class PadTermsTest {
         due.enterAlone("f:A>A/`[A]A-", 7);
         due.enterAlone("f:A>A/e[A]A-", 7);
         due.enterAlone("f:A>A/aA-", 8);
+        due.enterAlone("f:A>A/a-", 8);
+        due.enterAlone("f:A>A/a[-", 9);
+        due.enterAlone("f:A>A/a[A-", 10);
         due.enterAlone("f:A>A/a[]A-", 9);
         due.enterAlone("f:A>A/a[G]A-", 9);
         due.enterAlone("f:A>A/a[AA-", 10);

@@ -145,6 +145,14 @@ final class PromiseTest {
         due.is("enter() of a cleared pad", due.h.enter(), 1);
         due.is("least(0)", due.h.least(0), NONE);
         due.is("read() of a cleared pad", due.h.read(), 0);
+        due.pad("f:A>A/.-");
+        due.h.clear();
+        due.is("enter() of a cleared pad", due.h.enter(), 1);
+        due.is("run(0)", due.h.run(0), MISSING);
+        due.pad("0a[]");
+        due.h.clear();
+        due.is("read() of a cleared pad", due.h.read(), 0);
+        due.is("size()", due.h.size(), 0);
         due.pad("#".repeat(80));
         due.is("type of character 81", due.h.type('#'), false);
         due.h.clear();
@@ -175,6 +183,14 @@ final class PromiseTest {
             due.is("type", due.h.type('#'), true);
             due.is("enter()", due.h.enter(), 0);
             due.is("least", due.h.least(name), 2);
+            due.enter(letter + "=#*#?", 0);
+            due.is("least", due.h.least(name), 0);
+            due.enter(letter + "=##", 0);
+            due.is("least", due.h.least(name), 2);
+            due.enter(letter + "=|#", 0);
+            due.is("least", due.h.least(name), 0);
+            due.enter(letter + "=" + letter, 0);
+            due.is("least", due.h.least(name), NONE);
             due.enter(letter + "=", 0);
             due.is("least", due.h.least(name), 0);
             due.is("least of another", due.h.least((name + 1) % 6), NONE);
@@ -386,15 +402,22 @@ final class PromiseTest {
         due.enter("A=", 0);
         shows(0, 1, 0, "");
         due.enter("A=#", 0);
+        due.pad("8");
         shows(0, 1, 1, "0");
         shows(0, 0, NONE, "0");
+        due.is("read()", due.h.read(), 0);
+        due.is("the pad stays", due.document(), "8");
+        shows(0, 1, 1, "0");
         due.enter("A=###########", 0);
         shows(0, 1, 11, "00000000000");
         due.enter("A=############", 0);
         shows(0, 1, 12, "000000000000");
         due.enter("A=#############", 0);
         shows(0, 1, 13, "000000000000");
-        due.enter("A=##############|a[B]", 0);
+        due.enter("A=d[B]d[B]d[B]d[B]d[B]d[B]d[B]d[B]d[B]d[B]d[B]d[B]", 0);
+        due.enter("B=", 0);
+        shows(0, 2, 12, "d[]d[]d[]d[]d[]d[]d[]d[]d[]d[]d[]d[]");
+        due.again().enter("A=##############|a[B]", 0);
         due.enter("B=", 0);
         shows(0, 2, 1, "a[]");
         due.enter("C=a[B]", 0);
@@ -636,6 +659,8 @@ final class PromiseTest {
         due.run(0, "00000000000", 1, "a[00000000000]");
         due.is("take() of 12 nodes", due.h.take(), true);
         due.is("document", due.document(), "a[00000000000]");
+        due.is("run(0) on what was taken", due.h.run(0), STUCK);
+        due.is("the value stays", due.value(), "a[00000000000]");
         due.run(0, "000000000000", 1, "a[000000000000]");
         due.is("take() of 13 nodes", due.h.take(), false);
         due.is("document", due.document(), "000000000000");
@@ -648,5 +673,12 @@ final class PromiseTest {
         due.run(0, "a[]", 1, "");
         due.is("take() of none", due.h.take(), true);
         due.is("size()", due.h.size(), 0);
+        due.enter("f:A>A/.-1/#A-a[y]", 0);
+        due.is("run(0)", due.h.run(0), 1);
+        due.is("the document is not the new value", due.document(), "");
+        due.is("take()", due.h.take(), true);
+        due.is("run(0) on what was taken", due.h.run(0), 1);
+        due.is("value", due.value(), "a[]");
+        due.is("document", due.document(), "1");
     }
 }

@@ -92,6 +92,7 @@ final class RunTest {
         due.enter("g:A>A/#A-1a[y]b[y]c[]d[]", 0);
         runs("00000000", 1, 1, "1a[0000000]b[0000000]c[]d[]");
         runs("000000000", 1, HedgeCheck.FULL, "1a[0000000]b[0000000]c[]d[]");
+        due.again().enter("A=a[A]A|#A|", 0);
         due.enter("g:A>A/#A-12345678#y", 0);
         runs("000000000000", 1, 1, "12345678000000000000");
         due.enter("g:A>A/#A-123456789#y", 0);
@@ -128,6 +129,7 @@ final class RunTest {
         due.enter("f:A>A/.-/a[A]A-a[f(y)]f(y)", 0);
         runs("a[]a[]a[]a[]", 0, 31, "a[a[a[a[]]a[]]a[a[]]a[]]a[a[a[]]a[]]a[a[]]a[]");
         runs("a[]a[]a[]a[]a[]", 0, HedgeCheck.FULL, "a[a[a[a[]]a[]]a[a[]]a[]]a[a[a[]]a[]]a[a[]]a[]");
+        due.again().enter("A=a[A]A|", 0);
         due.enter("g:A>A/.-/a[A]A-b[b[b[b[b[h(x)]]]]]", 0);
         due.enter("h:A>A/.-1/a[A]A-c[c[c[c[c[g(x)]]]]]", 0);
         runs("a[a[a[]]]", 1, 4, "b[b[b[b[b[c[c[c[c[c[b[b[b[b[b[1]]]]]]]]]]]]]]]");

@@ -27,10 +27,7 @@ final class StopTest {
         due.about = "stops";
         for (int sample = 0; sample < SAMPLES; sample++) {
             String text = sample < SEEDS.length ? SEEDS[sample] : change(SEEDS[random.nextInt(SEEDS.length)], random);
-            due.pad(text);
-            int entered = enterAnswer(text);
-            int answer = due.h.enter();
-            due.is("enter of " + text, answer == HedgeCheck.FULL ? 0 : answer, entered);
+            due.again().enter(text, enterAnswer(text));
             due.is("read of " + text, due.h.read(), answerFor(text, HEDGE));
         }
         Due.end();
