@@ -12,6 +12,7 @@ import java.util.TreeSet;
 final class Oracle {
     /** A smallest hedge may be too large for texts: then a sample is left out. */
     static final int LARGEST = 60;
+    private static final int MOST = 200;
 
     final String[] definitions = new String[6];
     final String[] functions = new String[3];
@@ -281,8 +282,40 @@ final class Oracle {
     }
 
     boolean isWrong(int function, int clause, String hedge) {
+        String result = result(function, clause);
+        if (hasWrongCall(result, hedge)) {
+            return true;
+        }
+        for (String possible : possible(result, hedge)) {
+            if (!belongs(possible, output(function))) {
+                return true;
+            }
+        }
+        return false;
+    }
+
+    /** The same as far as it is seen with only these hedges in place of the calls, and without a thought of kinds. */
+    boolean isSeenWrong(int function, int clause, String hedge, List<String> fillings) {
+        String result = result(function, clause);
+        if (hasWrongCall(result, hedge)) {
+            return true;
+        }
+        List<String> filled = new ArrayList<>();
+        fill(result, "", hedge, fillings, filled);
+        for (String each : filled) {
+            if (!belongs(each, output(function))) {
+                return true;
+            }
+        }
+        return false;
+    }
+
+    private String result(int function, int clause) {
         String text = clauses(function)[clause - 1];
-        String result = text.substring(text.indexOf('-') + 1);
+        return text.substring(text.indexOf('-') + 1);
+    }
+
+    private boolean hasWrongCall(String result, String hedge) {
         for (int k = 0; k < result.length(); k++) {
             if ("fgh".indexOf(result.charAt(k)) >= 0) {
                 int called = result.charAt(k) - 'f';
@@ -291,12 +324,27 @@ final class Oracle {
                 }
             }
         }
-        for (String possible : possible(result, hedge)) {
-            if (!belongs(possible, output(function))) {
-                return true;
-            }
-        }
         return false;
+    }
+
+    /** Adds what the rest of a result may be behind what is written; no more than MOST, because calls multiply. */
+    private void fill(String left, String written, String hedge, List<String> fillings, List<String> filled) {
+        if (filled.size() >= MOST) {
+            return;
+        }
+        if (left.isEmpty()) {
+            filled.add(written);
+        } else if ("fgh".indexOf(left.charAt(0)) >= 0) {
+            for (String each : fillings) {
+                if (belongs(each, output(left.charAt(0) - 'f'))) {
+                    fill(left.substring(4), written + each, hedge, fillings, filled);
+                }
+            }
+        } else {
+            char c = left.charAt(0);
+            String next = c == 'x' || c == 'y' ? argument(c, hedge) : c == '#' ? hedge.substring(0, 1) : String.valueOf(c);
+            fill(left.substring(1), written + next, hedge, fillings, filled);
+        }
     }
 
     private static String argument(char which, String hedge) {

@@ -1,6 +1,8 @@
 import java.util.ArrayList;
 import java.util.List;
 import java.util.Random;
+import java.util.Set;
+import java.util.TreeSet;
 
 /** Random definitions, functions and hedges: every answer against the oracle's (promises 4, 5 and 8 to 21). */
 final class RandomTest {
@@ -32,6 +34,7 @@ final class RandomTest {
                 }
                 defineFunctions();
                 askChecks();
+                checkSmallInputs();
                 runAll();
             }
         }
@@ -204,6 +207,39 @@ final class RandomTest {
             due.is("wrong" + about, due.h.wrong(function), told ? oracle.wrong(function) : without);
             due.is("safe" + about, due.h.safe(function), told && oracle.safe(function));
         }
+    }
+
+    /** The check by every input of at most 3 nodes, whatever its kind. */
+    private static void checkSmallInputs() {
+        for (int function = 0; function < 3 && oracle.kinds() != null && !oracle.tooLarge; function++) {
+            if (oracle.functions[function] != null) {
+                checkSmallInputs(function, smallHedges(3), smallHedges(1));
+            }
+        }
+    }
+
+    private static void checkSmallInputs(int function, List<String> hedges, List<String> fillings) {
+        long least = 4;
+        int wrong = 7;
+        Set<Integer> chosen = new TreeSet<>();
+        for (String hedge : hedges) {
+            if (oracle.belongs(hedge, oracle.input(function))) {
+                int clause = oracle.choose(function, hedge);
+                if (clause == 0) {
+                    least = Math.min(least, Oracle.sizeOf(hedge));
+                } else {
+                    chosen.add(clause);
+                    wrong = clause < wrong && oracle.isSeenWrong(function, clause, hedge, fillings) ? clause : wrong;
+                }
+            }
+        }
+        String about = " by small hedges of " + oracle.functions[function];
+        long uncovered = due.h.uncovered(function);
+        due.is("uncovered" + about, uncovered < 0 ? 4 : Math.min(4, uncovered), least);
+        int useless = due.h.useless(function);
+        due.is("useless" + about, Math.min(useless, oracle.clauses(function).length - chosen.size()), useless);
+        int first = due.h.wrong(function);
+        due.is("wrong" + about, wrong == 7 || first > 0 && first <= wrong, true);
     }
 
     private static void runAll() {
